@@ -16,7 +16,9 @@ public final class BlockTest {
         damageEdges();
         lostAndWrong();
         firstThatCannot();
-        unsentZeros();
+        for (int v = 1; v < 256; v++) {
+            unsentZeros(v);
+        }
         keepsItsCode();
         againstTheModel();
         check.end();
@@ -54,6 +56,10 @@ public final class BlockTest {
         }
         check.due("up to 799", x.block(1, 2, 3, NONE), 799);
         check.due("two more are too many", x.block(NONE, 1, NONE, 2), NONE);
+        check.due("two more are too many", x.block(1, 2, NONE, NONE), NONE);
+        check.due("two more are too many", x.block(NONE, NONE, 1, 2), NONE);
+        check.due("two more are too many", x.block(1, NONE, 2, NONE), NONE);
+        check.due("two more are too many", x.block(NONE, 1, 2, NONE), NONE);
         check.due("and nothing came behind", x.block(NONE, NONE, NONE, NONE), 799);
         check.due("up to 800", x.block(NONE, NONE, NONE, 77), 800);
         check.due("none more", x.block(NONE, NONE, NONE, NONE), 800);
@@ -271,18 +277,18 @@ public final class BlockTest {
     }
 
     /** Stripe 1 of 3 bytes in 2 stripes has a 0 behind that was not sent. */
-    private static void unsentZeros() {
+    private static void unsentZeros(int v) {
         ReedSets x = new ReedSets();
         x.code(2, 2, 0);
         x.put(0, 0);
-        x.put(1, 9);
+        x.put(1, v);
         x.encode();
         int[] near = {x.at(2), x.at(3)};
         x.block(0, 0, 0, NONE);
         check.due("lay(2)", x.lay(2), 7);
         x.damage(4, 1, near[0]);
         x.damage(6, 1, near[1]);
-        check.due("mend(): the nearest has a 9 where the 0 is", x.mend(), -3);
+        check.due("mend(): the nearest has " + v + " where the 0 is", x.mend(), -3);
         check.due("sent(4) is as it was", x.sent(4), near[0]);
         check.due("wrong()", x.wrong(), 2);
         x.damage(4, 1, NONE);
@@ -292,7 +298,7 @@ public final class BlockTest {
         x.damage(3, 1, near[0]);
         x.damage(5, 1, near[1]);
         check.due("mend(): stripe 0 has a byte there", x.mend(), 1);
-        check.due("sent(2)", x.sent(2), 9);
+        check.due("sent(2)", x.sent(2), v);
         check.due("wrong(): a right word, but another", x.wrong(), 3);
     }
 
