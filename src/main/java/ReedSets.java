@@ -271,7 +271,7 @@ public final class ReedSets {
             return powers[(logs[a & 255] + logs[b & 255]) & 511];
         }
 
-        /** Callers have seen to it that b is not 0. */
+        /** Callers keep b = 0 out; it is looked at here all the same, since 0 has no log. */
         int quotient(int a, int b) {
             if (a == 0 || b == 0) {
                 return 0;
@@ -287,7 +287,8 @@ public final class ReedSets {
         }
 
         int powerOfTwo(int e) {
-            return powers[Math.floorMod(e, ORDER)];
+            int rest = e % ORDER;
+            return powers[rest < 0 ? rest + ORDER : rest];
         }
 
         int logOf(int a) {

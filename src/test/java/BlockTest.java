@@ -320,7 +320,8 @@ public final class BlockTest {
             int k = random.nextInt(run % 3 == 0 ? 41 : 7);
             pair.code(1 + random.nextInt(200), k, random.nextInt(255));
             for (int i = 0; i < m; i += 4) {
-                pair.block(byteIf(i < m, random), byteIf(i + 1 < m, random), byteIf(i + 2 < m, random), byteIf(i + 3 < m, random));
+                int first = random.nextInt(256);
+                pair.block(first, byteIf(i + 1 < m, random), byteIf(i + 2 < m, random), byteIf(i + 3 < m, random));
             }
             int sent = pair.lay(1 + random.nextInt(17));
             hit(pair, random, sent, k);

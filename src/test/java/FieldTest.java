@@ -111,7 +111,9 @@ public final class FieldTest {
         }
         for (int a = 1; a < 256; a++) {
             ReedSets x = new ReedSets();
-            int[] far = {Integer.MAX_VALUE, Integer.MIN_VALUE, Integer.MIN_VALUE + 1, 1 << 30, -(1 << 30), 8421505, -8421505};
+            int[] far = {
+                Integer.MAX_VALUE, Integer.MIN_VALUE, Integer.MIN_VALUE + 1, 1 << 30, -(1 << 30), 8421505, -8421505
+            };
             for (int e : far) {
                 check.due("power(" + a + ", " + e + ")", x.power(a, e), farPower(a, e));
             }
