@@ -276,7 +276,32 @@ public final class BlockEdgesTest {
             x.damage(1, 1, v);
             check.due("mend(): the byte before the 0", x.mend(), 1);
             check.due("sent(1)", x.sent(1), 9);
+            x.damage(2, 1, v);
+            check.due("mend(): STRIPE 0 has a byte where STRIPE 1 has the 0", x.mend(), 1);
+            check.due("sent(2)", x.sent(2), 5);
         }
+        manyLostBesideZeros();
+    }
+
+    /** All that may be lost of STRIPES that have a 0 behind, and one more. */
+    private static void manyLostBesideZeros() {
+        ReedSets x = laid(17, 40, 254, 16);
+        for (int i = 17; i < 657; i += 80) {
+            x.damage(i, 80, NONE);
+        }
+        check.due("all REPAIR BYTES lost: mend()", x.mend(), 0);
+        check.due("wrong()", x.wrong(), 0);
+        x.damage(0, 17, NONE);
+        for (int i = 17; i < 625; i += 76) {
+            x.damage(i, 76, NONE);
+        }
+        check.due("STRIPE 0 has 40 lost, the others 39: mend()", x.mend(), 0);
+        check.due("wrong()", x.wrong(), 0);
+        for (int i = 1; i < 657; i += 82) {
+            x.damage(i, 82, NONE);
+        }
+        check.due("STRIPE 0 has 41 lost: mend()", x.mend(), -2);
+        check.due("wrong()", x.wrong(), 656);
     }
 
     // ---- promises 15 to 17
@@ -553,8 +578,8 @@ public final class BlockEdgesTest {
         expectNotLaid("before lay()", x);
         x.lay(3);
         int[][] none = {
-            {-1, 1}, {-1, 2}, {-100, 100}, {156, 1}, {155, 2}, {57, 100}, {156, 0}, {FAR, 1}, {FAR, 100}, {LOW, 1}, {LOW, 100},
-            {FAR, FAR}, {1, FAR}, {LOW, LOW}
+            {-1, 1}, {-1, 2}, {-100, 100}, {156, 1}, {155, 2}, {57, 100}, {156, 0}, {FAR, 1}, {FAR, 100}, {LOW, 1},
+            {LOW, 100}, {FAR, FAR}, {1, FAR}, {LOW, LOW}
         };
         for (int[] d : none) {
             check.due("damage(" + d[0] + ", " + d[1] + ", 255)", x.damage(d[0], d[1], 255), NONE);

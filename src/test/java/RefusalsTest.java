@@ -240,7 +240,8 @@ public final class RefusalsTest {
 
     private static void codes() {
         int[][] none = {
-            {0, 1, 0}, {201, 1, 0}, {1, -1, 0}, {1, 41, 0}, {1, 1, -1}, {1, 1, 255}, {FAR, FAR, FAR}, {LOW, LOW, LOW}, {216, 40, 0}
+            {0, 1, 0}, {201, 1, 0}, {1, -1, 0}, {1, 41, 0}, {1, 1, -1}, {1, 1, 255}, {FAR, FAR, FAR}, {LOW, LOW, LOW},
+            {216, 40, 0}
         };
         for (State state : ALL) {
             for (int[] c : none) {

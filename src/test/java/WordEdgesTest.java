@@ -15,6 +15,8 @@ public final class WordEdgesTest {
         check.sentence("2: To ENCODE: the last k become such that the WORD is RIGHT", WordEdgesTest::encodedWords);
         check.sentence("2: Some places of THE WORD may be LOST (their BYTES do not count)", WordEdgesTest::lostDoNotCount);
         check.sentence("2: 2 t + e being at most k", WordEdgesTest::nearEnough);
+        check.sentence("2: differs from it at t places that are not LOST", WordEdgesTest::placesOfTheWord);
+        check.sentence("2: (there is one at most)", WordEdgesTest::halfWay);
         check.sentence("2: in any way at the e LOST ones", WordEdgesTest::manyLost);
         check.sentence("2: THE WORD becomes that, no place is LOST", WordEdgesTest::noneLostThen);
         check.sentence("2: else nothing changes", WordEdgesTest::elseNothing);
@@ -256,6 +258,37 @@ public final class WordEdgesTest {
         if (e > 0) {
             check.due(name + "lose(" + (size - e) + ")", x.lose(size - e), near ? 1 : NONE);
         }
+    }
+
+    /** The error that would put it right stands before z^power: of 5 places, or of those that the word does not have. */
+    private static void placesOfTheWord() {
+        ReedSets field = new ReedSets();
+        for (int power = 0; power < 255; power++) {
+            int above = field.over(1 ^ Model.two(power), 3);
+            ReedSets x = put(coded(3, 2, 0), 0, 0, 0, above, above ^ 1);
+            check.due("z^" + power + ": syndrome(0)", x.syndrome(0), 1);
+            check.due("z^" + power + ": syndrome(1)", x.syndrome(1), Model.two(power));
+            check.due("z^" + power + ": repair()", x.repair(), power < 5 ? 1 : NONE);
+            check.due("z^" + power + ": changed(0, 0)", x.changed(0, 0), power < 5 ? 4 - power : NONE);
+            if (power >= 5) {
+                expectWord("z^" + power, x, 0, 0, 0, above, above ^ 1);
+            }
+        }
+    }
+
+    /** Two places from the one and two from the other; a lost place decides. */
+    private static void halfWay() {
+        int[] right = Model.encoded(new int[] {1}, 3, 0);
+        ReedSets x = put(coded(1, 3, 0), 1, right[1], 0, 0);
+        check.due("repair()", x.repair(), NONE);
+        expectWord("half way", x, 1, right[1], 0, 0);
+        x.lose(0);
+        check.due("nearer to 0: repair()", x.repair(), 1);
+        expectWord("nearer to 0", x, 0, 0, 0, 0);
+        put(x, 1, right[1], 0, 0);
+        x.lose(2);
+        check.due("nearer to the other: repair()", x.repair(), 1);
+        expectWord("nearer to the other", x, right);
     }
 
     private static void manyLost() {
